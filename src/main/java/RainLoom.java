@@ -627,14 +627,14 @@ public final class RainLoom {
 
     /** A LAW, as a row of codes that are worked off with a stack. A code of 0 or more is an INT. */
     private static final class Law {
-        /** The code of the first VAR, shed; the others, as TOKENS has them, are below it. */
+        /** The code of the first VAR, shed; those of the others, in the order of Tokens, are each one less. */
         static final int FIRST_VAR = -1;
         static final int VARS = 9;
         static final int ADD = -10;
         static final int SUBTRACT = -11;
         static final int MULTIPLY = -12;
         static final int DIVIDE = -13;
-        /** Goes on behind its target if the upper two of the stack are less and more, else at the target. */
+        /** Takes two off the stack: if the lower one is not less, goes on at the target, which is the next code. */
         static final int UNLESS_LESS = -14;
         static final int ANSWER = -15;
 
@@ -809,7 +809,7 @@ public final class RainLoom {
         }
     }
 
-    /** The TOKENS of a text: all up to its end, up to what is no TOKEN, or up to the first one too many. */
+    /** The TOKENS of a text, and what is none, up to its end or up to the first one too many. */
     private static final class Tokens {
         static final String WORDS = "row field loom weaves dries gathers store gusts seed if then else shed warp pick water needs drowns day which wide ";
         static final String SIGNS = ";=+-*/<()";

@@ -109,6 +109,10 @@ public final class PromiseTest {
         good("   ");
         good("\trow\noo\r; ");
         good("field a1 2;");
+        good("field zaz 1 2; field az 1 2; field za 1 2;");
+        faulty("field a{ 1 2;", 1, 7);
+        faulty("field a` 1 2;", 1, 7);
+        faulty("seed 1:;", 1, 6);
         good("field abcdefgh 1 2;store 0001;");
         good("weaves=(((((1)))))*2;");
         faulty("row", 1, 3);
@@ -876,6 +880,11 @@ public final class PromiseTest {
         due("STORE enough", poor.fell(0, 1, 1, -1), 2);
         poor.fall(0, 1, 1, 0, 0);
         due("STORE not enough", poor.fell(0, 1, 1, -1), 0);
+        // Only at Y 1 the last of 5 by 4 THREADS, 3 * 2 + 4 - 3, is on the last CELL.
+        RainLoom deep = Texts.of("row ooooo; row ooooo; row ooooo; row ooooo; row ooooo; loom l 5 0; weaves = pick * 2 + warp - 3;");
+        deep.tell(4, 4, 7);
+        due("fell(1, 5, 4, -1)", deep.fell(1, 5, 4, -1), 1);
+        due("fell(1, 5, 4, 0)", deep.fell(1, 5, 4, 0), 10);
         promise = 34;
         due("look(0, 2, 2)", x.look(0, 2, 2), 0);
         due("look(1, 2, 2)", x.look(1, 2, 2), 0);
