@@ -287,14 +287,18 @@ public final class RainLoom {
         if (!isPiece(loom, w, h)) {
             return NONE;
         }
-        int sum = heldBy(loom, w, h);
-        return none ? weaver.emptyThreads(w, h) : sum;
+        weaveWhole(loom, w, h);
+        return none ? weaver.emptyThreads(w, h) : weaver.woven;
     }
 
-    /** HOLDS, whatever is in the STORE; the weaver has the THREADS then. */
     private int heldBy(int loom, int w, int h) {
-        weaver.weave(loom, scene.part(loom, Scene.PICK), w, h, MAX_STORE);
+        weaveWhole(loom, w, h);
         return weaver.woven;
+    }
+
+    /** The weaver has the THREADS of the PIECE then, none TORN, whatever is in the STORE. */
+    private void weaveWhole(int loom, int w, int h) {
+        weaver.weave(loom, scene.part(loom, Scene.PICK), w, h, MAX_STORE);
     }
 
     public int comes(int loom, int w, int row) {
@@ -381,7 +385,7 @@ public final class RainLoom {
     }
 
     public int serve(int w, int h, int i) {
-        if (w < 1 || h < 1 || h > MAX_LONG || i < NONE || i >= plan.looms || w > plan.narrowest()) {
+        if (!isSize(w, h) || w > plan.narrowest() || i < NONE || i >= plan.looms) {
             return NONE;
         }
         if (plan.looms > plan.fields) {
@@ -578,10 +582,12 @@ public final class RainLoom {
         return bestLook();
     }
 
+    /** There was enough in the STORE when the PIECE fell: what is left in it now does not matter. */
     private void gatherWays(int k, int w, int h) {
         witness.beginWays(w, h);
         for (int loom = 0; loom < plan.looms; loom++) {
-            if (w <= plan.wide[loom] && heldBy(loom, w, h) <= scene.store) {
+            if (w <= plan.wide[loom]) {
+                weaveWhole(loom, w, h);
                 witness.keepPiece(loom, weaver.amounts);
                 witness.addWays(loom, k, plan.columns, plan.rows);
             }
@@ -799,9 +805,9 @@ public final class RainLoom {
             return hasField(which) ? cells[which] * needs[which] : 0;
         }
 
-        /** How WIDE the narrowest LOOM is; without LOOMS nothing is too wide. */
+        /** How WIDE the narrowest LOOM is; without LOOMS, as WIDE as one can be. */
         int narrowest() {
-            int least = Integer.MAX_VALUE;
+            int least = MAX_WIDE;
             for (int which = 0; which < looms; which++) {
                 least = Math.min(least, wide[which]);
             }

@@ -874,7 +874,7 @@ final class Model {
 
     int serve(int w, int h, int i) {
         int looms = text.looms.size();
-        if (w < 1 || h < 1 || h > 6 || i < -1 || i >= looms) {
+        if (w < 1 || w > 8 || h < 1 || h > 6 || i < -1 || i >= looms) {
             return NONE;
         }
         int[] held = new int[looms];
@@ -953,8 +953,9 @@ final class Model {
                     }
                     State s = state.copy();
                     s.water = new int[rows()][columns()];
+                    s.store = 9999;
                     letFall(s, l, w, h, x, y);
-                    boolean so = s.torn[l] == state.torn[l];
+                    boolean so = true;
                     for (int[] t : told.subList(0, k)) {
                         so &= s.water[t[1]][t[0]] == t[2];
                     }

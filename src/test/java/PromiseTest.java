@@ -786,7 +786,16 @@ public final class PromiseTest {
         due("the first by LOOM 0's FIELD", alike.serve(1, 1, 0), 0);
         due("then the next one's", alike.serve(1, 1, 1), 2);
         due("more LOOMS", Texts.of("loom l 1 0; row a; loom m 1 0; field a 1 1;").serve(1, 1, 0), -2);
-        due("no LOOMS", Texts.of("row a; field a 1 1;").serve(1, 1, -1), 0);
+        RainLoom loomless = Texts.of("row a; field a 1 1;");
+        due("no LOOMS", loomless.serve(1, 1, -1), 0);
+        due("no LOOMS, as wide as one can be", loomless.serve(8, 6, -1), 0);
+        due("wider than any LOOM can be", loomless.serve(9, 1, -1), -1);
+        due("wider than any LOOM can be, no text", new RainLoom().serve(37, 1, -1), -1);
+        due("the greatest", new RainLoom().serve(Integer.MAX_VALUE, 1, -1), -1);
+        due("no LOOM of that number", loomless.serve(1, 1, 0), -1);
+        RainLoom widest = Texts.of("row a; field a 5 9; loom l 8 0;");
+        due("8 wide", widest.serve(8, 1, -1), 3);
+        due("9 wide", widest.serve(9, 1, -1), -1);
         promise = 28;
         due("suits(0, 2, 1)", x.suits(0, 2, 1), 0);
         due("suits(1, 2, 1)", x.suits(1, 2, 1), 2);
@@ -877,9 +886,16 @@ public final class PromiseTest {
         due("fell(3, 2, 2, -1)", x.fell(3, 2, 2, -1), 0);
         due("by the first 1", x.fell(1, 2, 2, -1), 2);
         RainLoom poor = Texts.of("row oo; loom l 1 0; loom m 1 0; weaves = 5 + which; store 5;");
-        due("STORE enough", poor.fell(0, 1, 1, -1), 2);
+        due("whatever is in the STORE", poor.fell(0, 1, 1, -1), 4);
         poor.fall(0, 1, 1, 0, 0);
-        due("STORE not enough", poor.fell(0, 1, 1, -1), 0);
+        due("the STORE is empty", poor.count(5), 0);
+        due("whatever is left in the STORE", poor.fell(0, 1, 1, -1), 4);
+        due("of LOOM 1 too", poor.fell(0, 1, 1, 3), 101);
+        poor.tell(1, 0, 6);
+        due("it was not TORN", poor.fell(1, 1, 1, 0), 101);
+        RainLoom bare = Texts.of("row ooo; loom l 2 0; weaves = 9 - warp; store 0;");
+        bare.tell(0, 0, 9);
+        due("no STORE at all", bare.fell(1, 2, 1, -1), 1);
         // Only at Y 1 the last of 5 by 4 THREADS, 3 * 2 + 4 - 3, is on the last CELL.
         RainLoom deep = Texts.of("row ooooo; row ooooo; row ooooo; row ooooo; row ooooo; loom l 5 0; weaves = pick * 2 + warp - 3;");
         deep.tell(4, 4, 7);
@@ -896,6 +912,7 @@ public final class PromiseTest {
         due("look(0, 1, 7)", x.look(0, 1, 7), -1);
         due("no CELLS", new RainLoom().look(0, 1, 1), -2);
         due("no ways", x.look(3, 2, 2), 0);
+        due("whatever is in the STORE", Texts.of("row ooooo; loom l 3 0; weaves = warp + 1; store 0;").look(0, 3, 1), 1);
         // 1 2 3 over five CELLS, at X 0, 1, 2: at X 1 it is 2, 1, 0.
         RainLoom y = Texts.of("row ooooo; loom l 3 0; weaves = warp + 1;");
         due("look(0, 3, 1)", y.look(0, 3, 1), 1);
