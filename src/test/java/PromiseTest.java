@@ -175,6 +175,7 @@ public final class PromiseTest {
         good("weaves = " + once.repeat(4) + "4; dries = " + once.repeat(4) + "5;");
         faulty("weaves = " + once.repeat(5) + "4;", 2, 93);
         good("weaves = ((((((1)))))) + ((((((1))))));");
+        good("dries = if ((((((1)))))) < ((((((1)))))) then ((((((1)))))) else ((((((1))))));");
         faulty("weaves = (((((((1)))))));", 2, 15);
         faulty("weaves = if ((((((1)))))) < 1 then (((((((1))))))) else 1;", 2, 41);
         String full = "seed 1;".repeat(132) + "weaves=1;";
@@ -191,6 +192,7 @@ public final class PromiseTest {
 
     private static void laterFaults() {
         promise = 4;
+        good("seed 0; store 0;");
         good("gusts 100; gusts 0; seed 9999; store 9999; field a 99 999; field b 0 0; loom l 8 99; loom m 1 0;");
         good("field a 9 3;");
         faulty("gusts 101;", 5, 6);
