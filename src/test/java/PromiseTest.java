@@ -137,6 +137,13 @@ public final class PromiseTest {
         faulty("store;", 1, 5);
         faulty("seed 1 2;", 1, 7);
         faulty("seed -1;", 1, 5);
+        for (char sign : ";=+-*/<()".toCharArray()) {
+            faulty(String.valueOf(sign), 1, 0);
+            faulty("seed 1;" + sign, 1, 7);
+        }
+        faulty("weaves = (1", 1, 11);
+        faulty("weaves = (1;", 1, 11);
+        faulty("weaves = 1);", 1, 10);
         faulty("weaves 1;", 1, 7);
         faulty("weaves = ;", 1, 9);
         faulty("weaves = -1;", 1, 9);
