@@ -163,16 +163,20 @@ public final class RulesTest {
         String text = "row abo; row bba; field p 3 9; field q 2 8; loom l 3 1; loom m 2 0; weaves = shed + warp * which;"
             + "gusts 30; gathers = day; dries = water / 2; store 9000;";
         int[][] feeds = Texts.feeds(text);
-        RainLoom x = Texts.of(text);
-        int sum = callAll(x, 1);
+        RainLoom[] objects = new RainLoom[50];
+        for (int i = 0; i < objects.length; i++) {
+            objects[i] = Texts.of(text);
+        }
+        int sum = callAll(objects[0], 1);
         long id = Thread.currentThread().getId();
         long before = bean.getThreadAllocatedBytes(id);
-        for (int n = 0; n < 400; n++) {
+        for (int n = 0; n < 8 * objects.length; n++) {
+            RainLoom x = objects[n / 8];
             sum += callAll(x, n);
-            for (int at = 0; at < feeds.length && n % 50 == 0; at++) {
+            for (int at = 0; at < feeds.length && n % 8 == 4; at++) {
                 x.feed(feeds[at][0], feeds[at][1], feeds[at][2], feeds[at][3], feeds[at][4]);
             }
-            sum += n % 50 == 0 ? x.read() : 0;
+            sum += n % 8 == 4 ? x.read() : 0;
         }
         long bytes = bean.getThreadAllocatedBytes(id) - before;
         rule(12, bytes < 20000, bytes + " bytes were made by 16,000 calls (" + sum + ")");
