@@ -85,6 +85,7 @@ public final class AskEdgeTest {
         }
         RainLoom x = Texts.of("loom l 1 0; weaves = if pick - pick / 100 * 100 < 1 then 1 else 0;");
         CHECK.due("round each 100", x.round(0), -2);
+        CHECK.due("by how much lies in them", Texts.of("loom l 8 0; weaves = shed + 1;").round(0), 4);
         CHECK.due("in the last warp", Texts.of("loom l 8 0; weaves = if warp < 7 then 2 else shed;").round(0), 4);
         CHECK.due("in the first warp", Texts.of("loom l 8 0; weaves = if 0 < warp then 2 else shed;").round(0), 4);
         CHECK.says("for 48 PICKS from where it stands on");
@@ -161,6 +162,14 @@ public final class AskEdgeTest {
         where(half, 1, 1, 0, 0, 0);
         half.fall(0, 1, 1, 2, 0);
         where(half, 1, 1, 1, 2, 0);
+        // 1 2 / 3 4 falls on a land of NEEDS 6 that has 5 0 0 / 0 2 0: on 5 and 2 at X 0 it is enough for both.
+        RainLoom uneven = Texts.of("row aaa;row aaa; field p 6 99; loom l 2 0; loom m 1 0; "
+            + "weaves = if which < 1 then pick * 2 + warp + 1 else if pick < 1 then 5 else 2; store 99;");
+        uneven.fall(1, 1, 1, 0, 0);
+        uneven.fall(1, 1, 1, 1, 1);
+        where(uneven, 2, 2, 2, 0, 0);
+        where(uneven, 1, 1, 1, 0, 0);
+        where(uneven, 2, 1, 1, 0, 0);
         where(Texts.of("row aoaaoa; field p 1 9; loom l 3 0;"), 3, 1, 2, 0, 0);
         where(Texts.of("row aooaaa; field p 1 9; loom l 3 0;"), 3, 1, 3, 3, 0);
     }
@@ -266,11 +275,18 @@ public final class AskEdgeTest {
         CHECK.due("the first Y, its X", alike.wettest(0, 1), 2);
         CHECK.due("the first Y", alike.wettest(0, 2), 0);
         CHECK.due("three are dry", alike.dry(60), 3);
-        RainLoom corner = Texts.of(WHOLE_LAND + "loom l 1 0;");
-        corner.fall(0, 1, 1, 7, 5);
-        CHECK.due("the last CELL", corner.wettest(0, 1) * 10 + corner.wettest(0, 2), 75);
-        CHECK.due("all but one", corner.dry(0), 47);
-        CHECK.due("all", corner.dry(1), 48);
+        for (int i = 0; i < 48; i++) {
+            RainLoom corner = Texts.of(WHOLE_LAND + "loom l 1 0;");
+            corner.fall(0, 1, 1, i % 8, i / 8);
+            CHECK.due("the only wet CELL", corner.wettest(0, 1) * 10 + corner.wettest(0, 2), i % 8 * 10 + i / 8);
+            CHECK.due("all but one", corner.dry(0), 47);
+            CHECK.due("all", corner.dry(1), 48);
+        }
+        RainLoom one = Texts.of("row o; loom l 1 0;");
+        CHECK.due("the only CELL", one.wettest(0, 0) + one.wettest(0, 1) + one.wettest(0, 2), 0);
+        one.fall(0, 1, 1, 0, 0);
+        CHECK.due("the only CELL, wet", one.wettest(0, 0), 1);
+        CHECK.due("the only CELL, wet", one.dry(0), 0);
     }
 
     private static int emptyBy(String text) {
@@ -322,6 +338,9 @@ public final class AskEdgeTest {
         CHECK.due("LOOMS and no FIELDS", Texts.of(looms).serve(1, 1, 0), -2);
         serves(Texts.of("row a; field p 8 1;"), 1, 1, 0);
         serves(Texts.of(""), 8, 6, 0);
+        serves(Texts.of("row a; field p 8 1; loom l 1 0; weaves = 3;"), 1, 1, 5, 0);
+        serves(Texts.of("row a; field p 8 1; loom l 1 0; weaves = 0;"), 1, 1, 8, 0);
+        serves(Texts.of("row ab; field p 8 1; field q 9 1; loom l 1 0; weaves = 0;"), 1, 1, 8, 0);
         serves(Texts.of("row a; field p 2 1; field q 50 1; loom l 2 0; weaves = 9; store 0;"), 2, 1, 16, 0);
         serves(Texts.of("row aab; field p 0 1; field q 9 1; loom l 8 0;"), 3, 2, 3, 1);
         CHECK.says("the least sum, of alike ones the first by LOOM 0's FIELD, then the next one's");
@@ -410,6 +429,12 @@ public final class AskEdgeTest {
         CHECK.due("by 19", full.fell(19, 1, 1, -1), 1);
         CHECK.due("by 20", full.fell(20, 1, 1, -1), 0);
         CHECK.due("by 21", full.fell(21, 1, 1, -1), -1);
+        for (int i = 0; i < 48; i++) {
+            RainLoom anywhere = Texts.of(WHOLE_LAND + "loom l 1 0;");
+            anywhere.tell(i % 8, i / 8, 1);
+            CHECK.due("on the CELL that is TOLD, no other", anywhere.fell(1, 1, 1, -1), 1);
+            CHECK.due("on the CELL that is TOLD", anywhere.fell(1, 1, 1, 0), i / 8 * 10 + i % 8);
+        }
     }
 
     private static void fell() {
@@ -456,6 +481,10 @@ public final class AskEdgeTest {
         CHECK.due("told twice", poor.fell(2, 2, 1, -1), 2);
         poor.tell(1, 0, 6);
         CHECK.due("told otherwise", poor.fell(3, 2, 1, -1), 0);
+        RainLoom large = Texts.of("row o;row o;row o; loom l 1 0; weaves = 9;");
+        CHECK.due("a long PIECE", large.fell(0, 1, 3, -1), 1);
+        large.tell(0, 1, 0);
+        CHECK.due("then a short one: nothing is left of the long one", large.fell(1, 1, 1, -1), 2);
         RainLoom more = Texts.of("row o; loom l 1 0; weaves = 9;");
         more.tell(0, 0, 10);
         CHECK.due("more than a THREAD holds", more.fell(1, 1, 1, -1), 0);
@@ -479,8 +508,12 @@ public final class AskEdgeTest {
         // 1 2 at X 0, 1, 2: X 0: 1 0 0; X 1: 2 1 0; X 2: 0 2 1.
         CHECK.due("at X 1", Texts.of("row oooo; loom l 2 0; weaves = warp + 1;").look(0, 2, 1), 1);
         // 1 over 2, at X 0 or 1, Y 0 or 1: the first CELL tells 1 0 0 0, that below it 2 1 0 0.
-        CHECK.due("by Y, then by X", Texts.of("row oo;row oo;row oo; loom l 1 0; weaves = pick + 1;").look(0, 1, 2), 10);
+        CHECK.due("in the middle row", Texts.of("row oo;row oo;row oo; loom l 1 0; weaves = pick + 1;").look(0, 1, 2), 10);
+        // Two LOOMS, one way each; their PIECES differ at X 3, Y 0 and at X 0, Y 1 alone.
+        CHECK.due("by Y, then by X", Texts.of("row oooo;row oooo; loom k 4 0; loom l 4 0; weaves = if warp + pick * 4 < 3 then 5 "
+            + "else if 4 < warp + pick * 4 then 5 else which;").look(0, 4, 2), 3);
         CHECK.due("no ways", Texts.of("row oo; loom l 1 0;").look(0, 2, 1), 0);
+        CHECK.due("the only CELL", Texts.of("row o; loom l 1 0;").look(0, 1, 1), 0);
         CHECK.due("no LOOM", Texts.of("row oo;").look(0, 1, 1), 0);
         CHECK.due("no CELLS", Texts.of("loom l 1 0;").look(0, 1, 1), -2);
     }

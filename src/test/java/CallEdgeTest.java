@@ -196,6 +196,9 @@ public final class CallEdgeTest {
         for (int[] a : fields) {
             refused("field(" + a[0] + ", " + a[1] + ")", x -> x.field(a[0], a[1]), -1);
         }
+        RainLoom some = Texts.of("row aob; field p 1 9; field q 1 9; loom l 3 0; weaves = warp + 3;");
+        some.fall(0, 3, 1, 0, 0);
+        CHECK.due("the water of its CELLS alone", some.field(0, 1) * 10 + some.field(1, 1), 35);
         CHECK.due("of 48 CELLS", Texts.of("row aaaaaaaa;".repeat(6) + "field p 99 0;").field(0, 4), 4752);
         CHECK.says("its ORDER's w, h, X, Y (-2: none), 6 how much it wove so far, 7 how many PIECES were TORN. NONE for others.");
         RainLoom fresh = Texts.of(TEXT);
@@ -609,6 +612,11 @@ public final class CallEdgeTest {
         kept.restore(0);
         CHECK.due("not what is TOLD", kept.count(10), 1);
         CHECK.due("nor the tape", kept.count(8), 0);
+        RainLoom tape = busy();
+        tape.restore(1);
+        CHECK.due("the tape stays", tape.count(8), 20);
+        CHECK.due("what is TOLD stays", tape.count(10), 2);
+        CHECK.due("what is on the tape stays", tape.read() * 100 + tape.place(), 119);
         CHECK.says("false, and nothing happens: no such one, nothing is held.");
         for (int slot : new int[] {-1, 0, 2, 3, MIN, MAX}) {
             refused("restore(" + slot + ")", z -> z.restore(slot), false);

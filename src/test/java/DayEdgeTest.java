@@ -48,6 +48,11 @@ public final class DayEdgeTest {
         weaves(never + never + never + "if 1 < 2 then 6 else 7", 6);
         weaves(never + never + never + never + "7", 7);
         weaves("7", 7);
+        // As deep as can be, with as much left to be worked as can be.
+        String deep = "1+1*(".repeat(6) + "1" + ")".repeat(6);
+        weaves(deep, 7);
+        weaves(never + never + never + "if " + deep + " < " + deep + " then 2 else " + deep, 7);
+        weaves(never + never + never + "if " + deep + " < " + deep + "+1 then " + deep + " else 2", 7);
     }
 
     private static void wraps() {
@@ -192,6 +197,11 @@ public final class DayEdgeTest {
         CHECK.due("of FIELD 0", x.cell(0, 0, 1), 0);
         CHECK.due("of none", x.cell(1, 0, 1), 9);
         CHECK.due("of FIELD 1", x.cell(2, 0, 1), 7);
+        RainLoom none = Texts.of("row oa; field p 2 3; loom l 2 0; weaves = 9; dries = needs + drowns + 1;");
+        none.fall(0, 2, 1, 0, 0);
+        none.days(1);
+        CHECK.due("0 and 0 of none", none.cell(0, 0, 1), 8);
+        CHECK.due("2 and 3 of FIELD 0", none.cell(1, 0, 1), 3);
         CHECK.says("GATHERS (day), held to 0 .. 999");
         CHECK.due("GATHERS -1", gathered("0 - 1"), 0);
         CHECK.due("GATHERS 0", gathered("0"), 0);
@@ -359,6 +369,7 @@ public final class DayEdgeTest {
         x.days(1);
         CHECK.due("beyond the last CELL all is lost", x.count(6), 0);
         CHECK.due("but woven", x.loom(0, 6), 8);
+        CHECK.due("out of the STORE", x.count(5), 92);
         x.order(0, 2, 2, 6, 0);
         x.days(1);
         CHECK.due("cell(7, 0, 1)", x.cell(7, 0, 1), 2);

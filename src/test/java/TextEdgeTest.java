@@ -47,10 +47,23 @@ public final class TextEdgeTest {
         CHECK.says("(a byte; the text's end: its length)");
         CHECK.reads(blank(1995) + "row o", 1, 2000);
         CHECK.reads(blank(1994) + "row o", 1, 1999);
+        CHECK.reads(blank(1994) + "seed 1", 1, 2000);
         CHECK.reads("row" + blank(1997), 1, 2000);
         CHECK.reads("row a;" + blank(1994), 6, 2000);
         CHECK.reads("row a;", 6, 6);
         CHECK.reads("row", 1, 3);
+        // What was taken back, or what an older text had there, is not read.
+        RainLoom y = new RainLoom();
+        Texts.read(y, "?".repeat(40));
+        int[] dues = {9, 12, 3, 0};
+        String[] texts = {"seed 12345", "row abcdefghi", "row?", "?"};
+        for (int i = 0; i < dues.length; i++) {
+            int[] f = Texts.feeds(texts[i])[0];
+            y.feed(f[0], f[1], f[2], f[3], f[4]);
+            y.back(21 - texts[i].length());
+            CHECK.due("read of " + texts[i] + " but the last", y.read(), i == 3 ? 0 : 1);
+            CHECK.due("place of " + texts[i] + " but the last", y.place(), i == 3 ? -1 : dues[i]);
+        }
         CHECK.says("text: {TELL}.");
         CHECK.good("");
         CHECK.good(blank(2000));
@@ -351,7 +364,10 @@ public final class TextEdgeTest {
         CHECK.reads("gusts 9999;", 5, 6);
         CHECK.reads("gusts 101;gusts 1;", 5, 6);
         CHECK.reads("gusts 1;gusts 101;", 5, 14);
-        CHECK.due("no GUSTS told", blown("", 0), false);
+        // LOT 100 of SEED 13 is 0: one GUST would be enough.
+        CHECK.due("no GUSTS told", blown("seed 13;", 0), false);
+        CHECK.due("GUSTS 0", blown("seed 13; gusts 0;", 0), false);
+        CHECK.due("GUSTS 1", blown("seed 13; gusts 1;", 0), true);
         CHECK.due("the last GUSTS, 0", blown("gusts 100; gusts 0;", 0), false);
         CHECK.due("the last GUSTS, 100", blown("gusts 0; gusts 100;", 0), true);
         // LOT 100 of LOOM 0 on day 0: 36 of SEED 0, 8 of 1, 61 of 7, 48 of 9999.
@@ -520,15 +536,43 @@ public final class TextEdgeTest {
         CHECK.due("read after a FAULT", Texts.read(x, "row o;"), 0);
     }
 
+    /** Has read two texts that tell all that can be told, and has done all that can be done, by each of them. */
+    private static RainLoom worn() {
+        RainLoom x = new RainLoom();
+        for (int n = 0; n < 2; n++) {
+            Texts.read(x, "row abcdefab;".repeat(6) + FIELDS + "loom i 8 9;loom j 7 8;loom k 6 7;loom l 5 6;weaves = 9 - warp;dries = 2;"
+                + "gathers = 7;store 9000;gusts 77;seed 13;");
+            for (int loom = 0; loom < 4; loom++) {
+                x.order(loom, 5, 6, loom, 0);
+            }
+            x.days(3);
+            x.tell(0, 0, 1);
+            x.hold(0);
+            x.hold(1);
+            x.hold(2);
+        }
+        return x;
+    }
+
+    /** What is there, and how it goes on from there. */
+    private static String goesOn(RainLoom x) {
+        String first = Looks.of(x);
+        String cloth = " " + x.thread(0, 0, 1) + " " + x.holds(0, 1, 6, false) + " " + x.comes(0, 1, 1) + " " + x.round(0);
+        x.order(0, 1, 2, 0, 0);
+        x.fall(1, 1, 1, 0, 0);
+        x.days(5);
+        return first + cloth + Looks.through(x);
+    }
+
     private static void wholeTexts() {
         CHECK.says("else it is in place of the one ahead: day 0, all dry, no orders, nothing lacked or flooded yet; "
             + "nothing can be undone, nothing is TOLD, SLOTS hold nothing.");
         String[] texts = {"", "row ab;row oa;field p 3 5;field q 0 1;loom l 2 0;loom m 1 1;weaves = pick + warp;gusts 50;",
-            "row a;field p 1 2;loom l 1 0;", "row oooooooo;row oooooooo;loom l 8 9;loom m 7 8;loom k 6 7;", "store 5;"};
+            "row a;field p 1 2;loom l 1 0;", "row aoa;field p 1 2;loom l 1 0;", "row oo;row oo;loom l 8 9;loom m 7 8;loom k 6 7;", "store 5;"};
         for (String text : texts) {
-            RainLoom x = busy();
+            RainLoom x = worn();
             CHECK.due("read of " + text, Texts.read(x, text), 0);
-            CHECK.due("after " + text, Looks.through(x), Looks.through(Texts.of(text)));
+            CHECK.due("after " + text, goesOn(x), goesOn(Texts.of(text)));
         }
         RainLoom x = busy();
         CHECK.due("lacked ahead", x.count(12) > 0, true);
