@@ -29,6 +29,8 @@ public final class RainLoom {
     private static final int LONGEST_ROUND = 99;
     private static final int ROUND_PICKS = 48;
     private static final int SLOTS = 3;
+    /** More than any sum of differences, and than there are ways. */
+    private static final int BEYOND_ALL = 1000000;
 
     private final byte[] tape = new byte[MAX_BYTES];
     private int tapeLength = 0;
@@ -404,7 +406,7 @@ public final class RainLoom {
             services *= plan.fields;
         }
         int best = 0;
-        int least = Integer.MAX_VALUE;
+        int least = BEYOND_ALL;
         for (int service = 0; service < services; service++) {
             int sum = serviceSum(service);
             if (sum >= 0 && sum < least) {
@@ -446,7 +448,7 @@ public final class RainLoom {
         }
         int need = plan.needOf(field);
         int best = NOT_SO;
-        int least = Integer.MAX_VALUE;
+        int least = BEYOND_ALL;
         for (int loom = 0; loom < plan.looms; loom++) {
             if (w <= plan.wide[loom]) {
                 int differ = Math.abs(heldBy(loom, w, h) - need);
@@ -596,7 +598,7 @@ public final class RainLoom {
 
     private int bestLook() {
         int best = 0;
-        int fewest = Integer.MAX_VALUE;
+        int fewest = BEYOND_ALL;
         for (int y = 0; y < plan.rows; y++) {
             for (int x = 0; x < plan.columns; x++) {
                 int left = witness.leftAtWorst(x, y);

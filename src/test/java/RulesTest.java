@@ -123,7 +123,7 @@ public final class RulesTest {
             rule(4, Set.of("java.util.Arrays", "java.util.ArrayList", "java.util.List").contains(m.group(1)), m.group());
         }
         Matcher library = Pattern.compile("\\b(Math|Arrays|Integer|Long|System)\\.(\\w+)").matcher(plain);
-        Set<String> fine = Set.of("max", "min", "abs", "fill", "arraycopy", "MAX_VALUE");
+        Set<String> fine = Set.of("max", "min", "abs", "fill", "arraycopy");
         while (library.find()) {
             rule(4, fine.contains(library.group(2)), library.group());
         }
