@@ -23,6 +23,7 @@ public final class DayEdgeTest {
         lots();
         tallies();
         dusk();
+        byHand();
         CHECK.end();
     }
 
@@ -467,5 +468,35 @@ public final class DayEdgeTest {
         CHECK.due("day 1", day.count(4), 1);
         day.days(2);
         CHECK.due("GATHERS of days 1 and 2", day.count(5), 6);
+    }
+
+    private static void byHand() {
+        CHECK.says("each THREAD that is woven takes as much from the STORE");
+        RainLoom x = Texts.of("row ooo; loom l 3 1; loom m 2 0; weaves = pick * 2 + warp; store 50; gusts 100; dries = 0;");
+        // Picks 1 and 2 are 2 3 4 and 4 5 6.
+        CHECK.due("fall(0, 3, 1, 0, 0)", x.fall(0, 3, 1, 0, 0), 9);
+        CHECK.due("50 - 9", x.count(5), 41);
+        CHECK.says("a PIECE is LET FALL at once");
+        CHECK.due("whatever the GUSTS", x.cell(0, 0, 1) * 100 + x.cell(1, 0, 1) * 10 + x.cell(2, 0, 1), 234);
+        CHECK.due("it is still day 0", x.count(4), 0);
+        CHECK.due("LOOM 0 stands further", x.loom(0, 1), 2);
+        CHECK.due("LOOM 1 does not", x.loom(1, 1), 0);
+        CHECK.says("a LOOM is turned on by so many PICKS without weaving");
+        CHECK.due("turn(0, 3)", x.turn(0, 3), 5);
+        CHECK.due("nothing is woven", x.loom(0, 6), 9);
+        CHECK.due("nothing is TORN", x.loom(0, 7), 0);
+        CHECK.due("nothing is taken", x.count(5), 41);
+        CHECK.due("nothing falls", x.count(6), 9);
+        CHECK.due("LOOM 1 is not turned", x.loom(1, 1), 0);
+        CHECK.says("an ORDER is told, or taken back");
+        x.order(1, 2, 1, 0, 0);
+        CHECK.due("it does not fall yet", x.count(6), 9);
+        x.days(1);
+        CHECK.due("0 1, one CELL to the east", x.cell(0, 0, 1) * 100 + x.cell(1, 0, 1) * 10 + x.cell(2, 0, 1), 235);
+        x.stop(1);
+        x.days(1);
+        CHECK.due("no longer", x.count(6), 10);
+        CHECK.due("LOOM 1 stands still", x.loom(1, 1), 1);
+        CHECK.due("days go by all the same", x.count(4), 2);
     }
 }
